@@ -393,6 +393,8 @@ public final class PairTables {
         final int[] turnedSets = new int[1 << MOST_KINDS];
         /** Joins of half sets (kinds 0 to 3, or 4 to 7), so that a join of sets takes four looks. */
         final int[] halfJoins = new int[4 * 256];
+        /** The new number of each old kind, while two become one. */
+        private final int[] names = new int[MOST_KINDS];
 
         int all() {
             return (1 << size) - 1;
@@ -539,7 +541,6 @@ public final class PairTables {
         void becomeFused(Table old, int a, int b) {
             int gone = Math.max(a, b);
             int goneTurn = Math.max(old.turns[a], old.turns[b]);
-            int[] names = new int[MOST_KINDS];
             size = 0;
             for (int kind = 0; kind < old.size; kind++) {
                 if (kind != gone && kind != goneTurn) {
@@ -553,13 +554,13 @@ public final class PairTables {
             for (int p = 0; p < old.size; p++) {
                 turns[names[p]] = names[old.turns[p]];
                 for (int q = 0; q < old.size; q++) {
-                    triangles[8 * names[p] + names[q]] |= renamed(old.triangles[8 * p + q], names);
+                    triangles[8 * names[p] + names[q]] |= renamed(old.triangles[8 * p + q]);
                 }
             }
             prepare();
         }
 
-        private static int renamed(int set, int[] names) {
+        private int renamed(int set) {
             int sum = 0;
             for (int kind = 0; kind < MOST_KINDS; kind++) {
                 if ((set >> kind & 1) == 1) {
@@ -962,9 +963,10 @@ public final class PairTables {
         final int[] least = new int[SQUARE];
         final int[] fixed = new int[SQUARE];
         int total;
-        boolean isCounted;
-        boolean isSearched;
-        boolean isThere;
+        private boolean isCounted;
+        private boolean isThere;
+        private boolean isAsked;
+        private boolean isLeast;
 
         Fillings(Search search, Net net) {
             this.search = search;
@@ -973,7 +975,8 @@ public final class PairTables {
 
         void forget() {
             isCounted = false;
-            isSearched = false;
+            isAsked = false;
+            isLeast = false;
         }
 
         int howMany() {
@@ -985,27 +988,26 @@ public final class PairTables {
             return total;
         }
 
+        /** Some filling, if there is one, is kept in least to begin with. */
         boolean areThere() {
-            if (isCounted) {
-                return total > 0;
+            if (!isAsked) {
+                isThere = search.findOne(net.cells, net.size);
+                System.arraycopy(search.last, 0, least, 0, SQUARE);
+                isAsked = true;
             }
-            return isSearched ? isThere : search.findOne(net.cells, net.size);
+            return isThere;
         }
 
         /** Whether there is one; the first is in least then. */
         boolean findLeast() {
-            if (!isSearched) {
-                isThere = search.findOne(net.cells, net.size);
-                if (isThere) {
-                    System.arraycopy(search.last, 0, least, 0, SQUARE);
-                    System.arraycopy(net.cells, 0, fixed, 0, SQUARE);
-                    for (int i = 0; i < net.size; i++) {
-                        for (int k = i + 1; k < net.size; k++) {
-                            fixLeast(8 * i + k);
-                        }
+            if (areThere() && !isLeast) {
+                System.arraycopy(net.cells, 0, fixed, 0, SQUARE);
+                for (int i = 0; i < net.size; i++) {
+                    for (int k = i + 1; k < net.size; k++) {
+                        fixLeast(8 * i + k);
                     }
                 }
-                isSearched = true;
+                isLeast = true;
             }
             return isThere;
         }
