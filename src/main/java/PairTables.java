@@ -6,6 +6,7 @@ public final class PairTables {
 
     private static final int TOLD = -1;
     private static final int ONCE = 0;
+    /** The way FULL; that name is taken by an answer. */
     private static final int CLOSED = 1;
     private static final int TRYING = 2;
     private static final int WAYS = 3;
@@ -814,25 +815,24 @@ public final class PairTables {
             this.spread = spread;
         }
 
-        /** Whether there is a filling; the last one found is in last. */
-        boolean findOne(int[] cells, int points) {
-            oneByOne = false;
-            run(cells, points, 1);
-            return total > 0;
-        }
-
-        /** How many there are, or some number that is too many. */
-        int countAll(int[] cells, int points) {
-            oneByOne = false;
-            run(cells, points, MOST_FILLINGS + 1);
-            return total;
-        }
-
-        /** The same, and how many of them are whole rows. */
-        int countWholes(int[] cells, int points) {
-            oneByOne = true;
-            listBetween();
-            run(cells, points, MOST_FILLINGS + 1);
+        /**
+         * How many fillings there are; where they are more than the limit, or as many, some number that is so too.
+         * The last one found is in last. Asked for them one by one, it counts those that are whole rows, too.
+         */
+        int run(int[] cells, int points, int limit, boolean isOneByOne) {
+            size = points;
+            total = 0;
+            wholes = 0;
+            enough = limit;
+            oneByOne = isOneByOne;
+            if (oneByOne) {
+                listBetween();
+            }
+            Arrays.fill(seen, 0);
+            System.arraycopy(cells, 0, levels[0], 0, SQUARE);
+            if (!hasEmpty(levels[0], size) && spread.settles(levels[0], size, pairsNotAll())) {
+                goOn(this, 0);
+            }
             return total;
         }
 
@@ -846,18 +846,6 @@ public final class PairTables {
                         }
                     }
                 }
-            }
-        }
-
-        private void run(int[] cells, int points, int limit) {
-            size = points;
-            total = 0;
-            wholes = 0;
-            enough = limit;
-            Arrays.fill(seen, 0);
-            System.arraycopy(cells, 0, levels[0], 0, SQUARE);
-            if (!hasEmpty(levels[0], size) && spread.settles(levels[0], size, pairsNotAll())) {
-                goOn(this, 0);
             }
         }
 
@@ -880,6 +868,9 @@ public final class PairTables {
             int cell = search.narrowestOpen(cells);
             if (cell < 0 || depth + 1 >= LEVELS || search.isBox()) {
                 search.takeBox(cells, cell);
+                if (search.oneByOne && search.isWhole(cells)) {
+                    search.wholes++;
+                }
                 return search.total >= search.enough;
             }
             int[] next = search.levels[depth + 1];
@@ -930,9 +921,6 @@ public final class PairTables {
             if (cell >= 0) {
                 spread.makeSingle(last, cell, lowest(cells[cell]));
             }
-            if (oneByOne && isWhole(cells)) {
-                wholes++;
-            }
         }
 
         private boolean isWhole(int[] cells) {
@@ -981,7 +969,7 @@ public final class PairTables {
 
         int howMany() {
             if (!isCounted) {
-                total = search.countAll(net.cells, net.size);
+                total = search.run(net.cells, net.size, MOST_FILLINGS + 1, false);
                 System.arraycopy(search.seen, 0, seen, 0, SQUARE);
                 isCounted = true;
             }
@@ -991,7 +979,7 @@ public final class PairTables {
         /** Some filling, if there is one, is kept in least to begin with. */
         boolean areThere() {
             if (!isAsked) {
-                isThere = search.findOne(net.cells, net.size);
+                isThere = search.run(net.cells, net.size, 1, false) > 0;
                 System.arraycopy(search.last, 0, least, 0, SQUARE);
                 isAsked = true;
             }
@@ -1020,7 +1008,7 @@ public final class PairTables {
             for (int kind = 0; kind < known && !isFound; kind++) {
                 if ((told >> kind & 1) == 1) {
                     search.spread.makeSingle(fixed, cell, kind);
-                    isFound = search.findOne(fixed, net.size);
+                    isFound = search.run(fixed, net.size, 1, false) > 0;
                 }
             }
             if (isFound) {
@@ -1072,24 +1060,21 @@ public final class PairTables {
         }
 
         int leastSet() {
-            if (!isKnown) {
-                answer = search.findOne(net.cells, net.size) ? NONE : findSet();
-                isKnown = true;
+            if (isKnown) {
+                return answer;
             }
-            return answer;
-        }
-
-        private int findSet() {
-            int last = (1 << howManyPairs) - 1;
+            isKnown = true;
             howManyGranted = 0;
-            for (int many = 1; many < howManyPairs; many++) {
-                for (int set = 1; set < last; set++) {
+            int every = (1 << howManyPairs) - 1;
+            answer = canBe(every) ? NONE : every;
+            for (int many = 1; many < howManyPairs && answer == every; many++) {
+                for (int set = 1; set < every && answer == every; set++) {
                     if (Integer.bitCount(set) == many && !isGranted(set) && !canBe(set)) {
-                        return set;
+                        answer = set;
                     }
                 }
             }
-            return last;
+            return answer;
         }
 
         private boolean isGranted(int set) {
@@ -1114,7 +1099,7 @@ public final class PairTables {
                     trial[back] = net.cells[back];
                 }
             }
-            boolean isFound = search.findOne(trial, net.size);
+            boolean isFound = search.run(trial, net.size, 1, false) > 0;
             if (isFound && howManyGranted < granted.length) {
                 granted[howManyGranted] = pairsAsTold(search.last);
                 howManyGranted++;
@@ -1161,7 +1146,7 @@ public final class PairTables {
             for (int place = 0; place < SQUARE; place++) {
                 start[place] = (place >> 3) == (place & 7) ? 1 : others;
             }
-            rows[m] = search.countWholes(start, m);
+            rows[m] = search.run(start, m, MOST_FILLINGS + 1, true);
             wholes[m] = search.wholes;
             known[m] = true;
         }
