@@ -1174,9 +1174,7 @@ public final class PairTables {
 
     /** Bytes that are typed, but not yet a term, and what reading makes of them. */
     private static final class Draft {
-        private static final int BRACKET = 0;
-        private static final int BOUND = 1;
-        private static final int SIGN = 4;
+        private static final int WEAKEST = 1;
 
         final int[] bytes = new int[MOST_BYTES];
         int length;
@@ -1216,7 +1214,7 @@ public final class PairTables {
             if (!isFactorRead || open > 0) {
                 return length;
             }
-            writeWaiting(BOUND);
+            writeWaiting(WEAKEST);
             return NONE;
         }
 
@@ -1241,16 +1239,15 @@ public final class PairTables {
                 letters |= 1 << one - 'x';
             }
             write(one);
-            endFactor();
+            isFactorRead = true;
             return true;
         }
 
         private boolean standsAfter(int one) {
             if (one == ')' && open > 0) {
-                writeWaiting(BOUND);
+                writeWaiting(WEAKEST);
                 howManyWait--;
                 open--;
-                endFactor();
                 return true;
             }
             if (one != '+' && one != '&' && one != ';') {
@@ -1259,11 +1256,6 @@ public final class PairTables {
             writeWaiting(strength(one));
             isFactorRead = false;
             return waits(one);
-        }
-
-        private void endFactor() {
-            writeWaiting(SIGN);
-            isFactorRead = true;
         }
 
         private boolean waits(int one) {
@@ -1293,15 +1285,15 @@ public final class PairTables {
         private static int strength(int one) {
             switch (one) {
                 case '(':
-                    return BRACKET;
+                    return 0;
                 case '+':
-                    return BOUND;
+                    return WEAKEST;
                 case '&':
                     return 2;
                 case ';':
                     return 3;
                 default:
-                    return SIGN;
+                    return 4;
             }
         }
     }

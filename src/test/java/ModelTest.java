@@ -19,6 +19,11 @@ public final class ModelTest {
         for (int run = from; run < from + runs && wrong == 0; run++) {
             oneRun(run);
         }
+        for (int run = from; run < from + 5 * runs && wrong == 0; run++) {
+            tightRun(run);
+        }
+        // found among thousands: here a trial ends otherwise, if it does not look at what went just before
+        tightRun(2698);
         System.out.println(compared + " answers held against the model, " + unknown + " too long for it, " + wrong + " wrong");
         if (wrong != 0 || compared < 1000) {
             System.exit(1);
@@ -43,6 +48,62 @@ public final class ModelTest {
                 wrong++;
                 System.out.println("run " + run + ", call " + call + ": " + called + " answered " + both[0] + ", due is " + both[1]);
             }
+        }
+    }
+
+    /** Tables and nets in which few fillings are left, so that trying has much to do. */
+    private static void tightRun(int run) {
+        random = new Random(~run);
+        x = new PairTables();
+        model = new Model();
+        int k = 3 + below(3);
+        int n = 4 + below(4);
+        both("kinds", x.kinds(k), model.kinds(k));
+        if (below(2) == 0) {
+            both("turn", x.turn(1, 2), model.turn(1, 2));
+        }
+        int less = 2 + below(6);
+        for (int a = 1; a < k; a++) {
+            for (int b = 1; b < k; b++) {
+                for (int c = 1; c < k; c++) {
+                    int is = below(less) == 0 ? 0 : 1;
+                    if (is == 0) {
+                        both("triangle", x.triangle(a, b, c, is), model.triangle(a, b, c, is));
+                    }
+                }
+            }
+        }
+        both("points", x.points(n), model.points(n));
+        for (int i = 0; i < n; i++) {
+            for (int j = i + 1; j < n; j++) {
+                int set = below(all() + 1) | below(all() + 1) & below(all() + 1);
+                int told = below(8) == 0 ? set : set & ~1;
+                both("tell", x.tell(i, j, told == 0 ? 2 : told), model.tell(i, j, told == 0 ? 2 : told));
+            }
+        }
+        for (int i = 0; i < n && wrong == 0; i++) {
+            for (int j = i + 1; j < n; j++) {
+                int way = below(6) == 0 ? below(3) - 1 : 2;
+                both("tight run " + run + ": narrow " + way + " " + i + " " + j, x.narrow(way, i, j), model.narrow(way, i, j));
+            }
+        }
+        both("tight run " + run + ": trace", x.trace(), model.trace());
+        both("tight run " + run + ": isVoid", x.isVoid(2), model.isVoid(2));
+        both("tight run " + run + ": fillings", x.fillings(0), model.fillings(0));
+        both("tight run " + run + ": first", x.first(n - 2, n - 1), model.first(n - 2, n - 1));
+        both("tight run " + run + ": sure", x.sure(0, n - 1), model.sure(0, n - 1));
+        both("tight run " + run + ": carried", x.carried(5, 1), model.carried(5, 1));
+    }
+
+    private static void both(String what, long got, long due) {
+        if (due == Model.UNKNOWN) {
+            unknown++;
+            return;
+        }
+        compared++;
+        if (got != due) {
+            wrong++;
+            System.out.println(what + " answered " + got + ", due is " + due);
         }
     }
 

@@ -270,6 +270,14 @@ public final class PromiseTest {
         due("P10 by both", 1, x.join(1 << 1, 1 << 1));
         due("P10 the shelf stays", 3, x.count(3));
         due("P10 sound", -9, x.fault());
+        x.kinds(2);
+        x.keep();
+        x.kinds(4);
+        due("P10 just eight", 8, x.shelf(1));
+        due("P10 just eight", -3, x.shelf(1));
+        due("P10 the highest kind by both", 1 << 7, x.join(1 << 3, 1 << 4));
+        x = line();
+        x.keep();
         x.kinds(1);
         due("P10 of one kind", 3, x.shelf(1));
         due("P10 of one kind", 13, x.count(1));
