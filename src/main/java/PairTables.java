@@ -55,6 +55,7 @@ public final class PairTables {
         fill = new Fillings(search, net);
         reasons = new Reasons(search, net, table);
         carriers = new Carriers(search, table);
+        carriers.forget();
         draft = new Draft();
         evaluator = new Evaluator(table);
         terms = new Term[TERMS];
@@ -298,11 +299,11 @@ public final class PairTables {
         if (m < 1 || m > MOST_CARRIERS || !isChoice(what)) {
             return BAD;
         }
-        carriers.countRows(m);
-        if (carriers.rows[m] > MOST_FILLINGS) {
+        int rows = carriers.rowsOf(m);
+        if (rows > MOST_FILLINGS) {
             return SPENT;
         }
-        return what == 0 ? carriers.rows[m] : carriers.wholes[m];
+        return what == 0 ? rows : carriers.wholesOf(m);
     }
 
     public int count(int what) {
@@ -807,7 +808,6 @@ public final class PairTables {
         int total;
         int wholes;
         private int enough;
-        private int open;
         private boolean oneByOne;
 
         Search(Table table, Spread spread) {
@@ -817,7 +817,7 @@ public final class PairTables {
 
         /**
          * How many fillings there are; where they are more than the limit, or as many, some number that is so too.
-         * The last one found is in last. Asked for them one by one, it counts those that are whole rows, too.
+         * If the limit is 1, the one that is found is in last. One by one, those that are whole rows are counted, too.
          */
         int run(int[] cells, int points, int limit, boolean isOneByOne) {
             size = points;
@@ -866,8 +866,11 @@ public final class PairTables {
         private static boolean goOn(Search search, int depth) {
             int[] cells = search.levels[depth];
             int cell = search.narrowestOpen(cells);
-            if (cell < 0 || depth + 1 >= LEVELS || search.isBox()) {
-                search.takeBox(cells, cell);
+            if (cell < 0 || depth + 1 >= LEVELS) {
+                search.takeBox(cells);
+                if (search.enough == 1) {
+                    search.takeLowest(cells);
+                }
                 if (search.oneByOne && search.isWhole(cells)) {
                     search.wholes++;
                 }
@@ -887,39 +890,63 @@ public final class PairTables {
             return false;
         }
 
-        /** The pair with the fewest kinds, but more than one; -1, if there is none. */
+        /**
+         * The open pair (with more than one kind) that has the fewest kinds; -1, if none has to be tried.
+         * Where no triangle has two open pairs, each choice of their kinds makes a filling: such pairs may stay open.
+         */
         private int narrowestOpen(int[] cells) {
+            int tried = pointsToTry(cells);
             int best = -1;
             int fewest = MOST_KINDS + 1;
-            open = 0;
-            for (int i = 0; i < size; i++) {
+            for (int i = 0; i < size && tried != 0; i++) {
                 for (int k = i + 1; k < size; k++) {
                     int many = Integer.bitCount(cells[8 * i + k]);
-                    if (many > 1) {
-                        open++;
-                        if (many < fewest) {
-                            best = 8 * i + k;
-                            fewest = many;
-                        }
+                    if (many > 1 && many < fewest && ((1 << i | 1 << k) & tried) != 0) {
+                        best = 8 * i + k;
+                        fewest = many;
                     }
                 }
             }
             return best;
         }
 
-        /** With just one pair open each of its kinds makes a filling, so that they need no looking at. */
-        private boolean isBox() {
-            return open == 1 && !oneByOne;
+        /** The points of two open pairs at least; one by one: of any. */
+        private int pointsToTry(int[] cells) {
+            int open = 0;
+            int twiceOpen = 0;
+            for (int i = 0; i < size; i++) {
+                for (int k = i + 1; k < size; k++) {
+                    int set = cells[8 * i + k];
+                    if ((set & set - 1) != 0) {
+                        int both = 1 << i | 1 << k;
+                        twiceOpen |= open & both;
+                        open |= both;
+                    }
+                }
+            }
+            return oneByOne ? open : twiceOpen;
         }
 
-        private void takeBox(int[] cells, int cell) {
-            total += cell < 0 ? 1 : Integer.bitCount(cells[cell]);
-            for (int place = 0; place < SQUARE; place++) {
-                seen[place] |= cells[place];
+        private void takeBox(int[] cells) {
+            int product = 1;
+            for (int i = 0; i < size; i++) {
+                seen[9 * i] = 1;
+                for (int k = i + 1; k < size; k++) {
+                    int set = cells[8 * i + k];
+                    product *= Integer.bitCount(set);
+                    seen[8 * i + k] |= set;
+                    seen[8 * k + i] |= cells[8 * k + i];
+                }
             }
+            total += product;
+        }
+
+        private void takeLowest(int[] cells) {
             System.arraycopy(cells, 0, last, 0, SQUARE);
-            if (cell >= 0) {
-                spread.makeSingle(last, cell, lowest(cells[cell]));
+            for (int i = 0; i < size; i++) {
+                for (int k = i + 1; k < size; k++) {
+                    spread.makeSingle(last, 8 * i + k, lowest(cells[8 * i + k]));
+                }
             }
         }
 
@@ -1118,14 +1145,14 @@ public final class PairTables {
         }
     }
 
-    /** Rows of a few points that carry the table, kept till it changes: at m, those of m points. */
+    /** Rows of a few points that carry the table: at m, those of m points; UNKNOWN, if not asked since it changed. */
     private static final class Carriers {
+        private static final int UNKNOWN = -1;
         final Search search;
         final Table table;
         final int[] start = new int[SQUARE];
         final int[] rows = new int[MOST_CARRIERS + 1];
         final int[] wholes = new int[MOST_CARRIERS + 1];
-        final boolean[] known = new boolean[MOST_CARRIERS + 1];
 
         Carriers(Search search, Table table) {
             this.search = search;
@@ -1133,22 +1160,32 @@ public final class PairTables {
         }
 
         void forget() {
-            for (int m = 0; m <= MOST_CARRIERS; m++) {
-                known[m] = false;
-            }
+            Arrays.fill(rows, UNKNOWN);
+            Arrays.fill(wholes, UNKNOWN);
         }
 
-        void countRows(int m) {
-            if (known[m]) {
-                return;
+        int rowsOf(int m) {
+            if (rows[m] == UNKNOWN) {
+                restart();
+                rows[m] = search.run(start, m, MOST_FILLINGS + 1, false);
             }
+            return rows[m];
+        }
+
+        int wholesOf(int m) {
+            if (wholes[m] == UNKNOWN) {
+                restart();
+                search.run(start, m, MOST_FILLINGS + 1, true);
+                wholes[m] = search.wholes;
+            }
+            return wholes[m];
+        }
+
+        private void restart() {
             int others = table.all() & ~1;
             for (int place = 0; place < SQUARE; place++) {
                 start[place] = (place >> 3) == (place & 7) ? 1 : others;
             }
-            rows[m] = search.run(start, m, MOST_FILLINGS + 1, true);
-            wholes[m] = search.wholes;
-            known[m] = true;
         }
     }
 
