@@ -1,16 +1,5 @@
-/** Each promise by small cases that are worked out by hand: ordinary ones, edges, wrong ones. */
-public final class PromiseTest {
-    private static int wrong = 0;
-    private static int asked = 0;
-
-    private static void due(String what, long want, long got) {
-        asked++;
-        if (got != want) {
-            wrong++;
-            System.out.println(what + " answered " + got + ", due is " + want);
-        }
-    }
-
+/** Each promise by small cases that are worked out by hand: ordinary ones and wrong ones. */
+public final class PromiseTest extends Hand {
     public static void main(String[] args) {
         constants();
         newObject();
@@ -39,31 +28,7 @@ public final class PromiseTest {
         count();
         trace();
         whatTheNetAndTermsOutlive();
-        System.out.println(asked + " answers by hand, " + wrong + " wrong");
-        if (wrong != 0) {
-            System.exit(1);
-        }
-    }
-
-    /** Points on a line: 1 before, 2 after; both can't be joined to the other way round. */
-    private static PairTables line() {
-        PairTables x = new PairTables();
-        x.kinds(3);
-        x.turn(1, 2);
-        x.triangle(1, 1, 2, 0);
-        return x;
-    }
-
-    private static void put(PairTables x, String text) {
-        for (int at = 0; at < text.length(); at++) {
-            x.type(text.charAt(at), 1);
-        }
-    }
-
-    private static int readOf(PairTables x, int i, String text) {
-        x.clear();
-        put(x, text);
-        return x.read(i);
+        end("PromiseTest");
     }
 
     private static void constants() {
