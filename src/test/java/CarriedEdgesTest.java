@@ -20,6 +20,9 @@ public final class CarriedEdgesTest extends Hand {
     }
 
     private static void onePoint() {
+        due("SAME alone at first", 1, new PairTables().carried(1, 0));
+        due("SAME alone at first", 1, new PairTables().carried(1, 1));
+        due("SAME alone at first: two can't be", 0, new PairTables().carried(2, 1));
         for (int k = 1; k <= 8; k++) {
             PairTables x = ofKinds(k);
             due("one row of none", 1, x.carried(1, 0));

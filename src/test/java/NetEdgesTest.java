@@ -21,6 +21,8 @@ public final class NetEdgesTest extends Hand {
         tryingLooksAtWhatWent();
         tryingStopsWhenVoid();
         tryingTriesByFull();
+        tryingTurnsAtOnce();
+        tryingTriesSame();
         voidAsTold();
         voidByEachWay();
         narrowRefused();
@@ -28,6 +30,10 @@ public final class NetEdgesTest extends Hand {
         traceStays();
         fillingsOfFewPoints();
         fillingsOfWhatIsTold();
+        fillingsOfSingleKinds();
+        fillingsWithSame();
+        fillingsOfSomeTheSame();
+        fillingsOfThreeOfEight();
         fillingsJustNotSpent();
         fillingsSpent();
         fillingsRefused();
@@ -42,6 +48,7 @@ public final class NetEdgesTest extends Hand {
         reasonOfOnePair();
         reasonTheFewest();
         reasonTheFirst();
+        reasonOfPairsTheSame();
         reasonOfTenAndEleven();
         reasonRefused();
         end("NetEdgesTest");
@@ -371,6 +378,52 @@ public final class NetEdgesTest extends Hand {
         due("FULL alone leaves more", 7, x.narrow(1, 0, 3));
     }
 
+    private static void tryingTurnsAtOnce() {
+        // as a ring of five with 1, 2 beside 4: (1, 4) and (0, 4) are 1, so (2, 4) and (3, 4) go to 2
+        PairTables x = mixed();
+        x.points(5);
+        tellAll(x, 6);
+        x.tell(0, 4, 2);
+        x.tell(1, 4, 2);
+        due("of i to k", 4, x.narrow(2, 2, 4));
+        due("of k to i", 4, x.narrow(2, 4, 2));
+        due("of k to i", 4, x.narrow(2, 4, 3));
+        // found by trial, and Model agrees: 3 goes for (1, 2), by TRYING alone, and leaves 2, whose TURN is 1
+        x = ofKinds(4);
+        x.turn(1, 2);
+        x.triangle(1, 1, 1, 0);
+        x.triangle(1, 1, 2, 0);
+        x.triangle(3, 3, 3, 0);
+        x.triangle(1, 3, 3, 0);
+        x.points(4);
+        tellAll(x, 14);
+        x.tell(0, 3, 4);
+        x.tell(1, 2, 12);
+        due("FULL leaves it", 12, x.narrow(1, 1, 2));
+        due("of i to k", 4, x.narrow(2, 1, 2));
+        due("of k to i", 2, x.narrow(2, 2, 1));
+        for (int i = 0; i < 4; i++) {
+            for (int k = i + 1; k < 4; k++) {
+                due("its TURN", x.turned(x.narrow(2, i, k)), x.narrow(2, k, i));
+            }
+        }
+    }
+
+    /** Found by trial, and Model agrees: SAME for (0, 2) goes by TRYING alone. */
+    private static void tryingTriesSame() {
+        PairTables x = mixed();
+        x.points(4);
+        x.tell(0, 1, 3);
+        x.tell(0, 3, 3);
+        x.tell(1, 2, 6);
+        x.tell(1, 3, 5);
+        x.tell(2, 3, 5);
+        due("FULL leaves SAME", 7, x.narrow(1, 0, 2));
+        due("TRYING does not", 6, x.narrow(2, 0, 2));
+        due("TRYING does not", 6, x.narrow(2, 2, 0));
+        due("nor has it a FILLING", 6, x.sure(0, 2));
+    }
+
     private static void voidAsTold() {
         PairTables x = line();
         x.points(4);
@@ -511,6 +564,88 @@ public final class NetEdgesTest extends Hand {
         due("what is TOLD stays", 4, x.tell(0, 2, 7));
     }
 
+    /** Eight in order; each pair told otherwise once. */
+    private static void fillingsOfSingleKinds() {
+        PairTables x = line();
+        x.points(8);
+        tellAll(x, 2);
+        due("in order", 1, x.fillings(0));
+        for (int i = 0; i < 8; i++) {
+            for (int k = i + 1; k < 8; k++) {
+                x.tell(i, k, 4);
+                due("the other way round: neighbours alone", k == i + 1 ? 1 : 0, x.fillings(0));
+                x.tell(i, k, 1);
+                due("together: neighbours alone", k == i + 1 ? 1 : 0, x.fillings(1));
+                due("together: neighbours alone", k == i + 1 ? 1 : 0, x.sure(i, k));
+                x.tell(i, k, 7);
+                due("free: all three, or before", k == i + 1 ? 3 : 1, x.fillings(0));
+                x.tell(i, k, 2);
+            }
+        }
+    }
+
+    /** Two sorts of points: 1 between unlike ones. */
+    private static void fillingsWithSame() {
+        PairTables x = ofKinds(2);
+        x.triangle(1, 1, 1, 0);
+        x.points(4);
+        due("two sorts, or one", 8, x.fillings(0));
+        x.tell(0, 1, 2);
+        x.tell(1, 2, 2);
+        due("0 and 2 are of one sort, 3 is of either", 2, x.fillings(0));
+        due("SAME comes of two", 1, x.sure(0, 2));
+        x.tell(0, 3, 2);
+        due("3 is of the other sort", 1, x.fillings(0));
+        due("so 1 and 3 are of one", 0, x.first(1, 3));
+        x.tell(2, 3, 1);
+        due("2 and 3 are not of one sort", 0, x.fillings(0));
+        due("four pairs", 4, x.reason(0));
+        x.points(3);
+        x.tell(0, 2, 2);
+        x.tell(1, 2, 2);
+        due("0 and 1 are of one sort", 1, x.fillings(0));
+        x.points(8);
+        due("two sorts of eight", 128, x.fillings(0));
+        for (int i = 0; i < 7; i++) {
+            x.tell(i, i + 1, 2);
+        }
+        due("by turns", 1, x.fillings(0));
+        due("by turns", 1, x.first(0, 7));
+        due("by turns", 0, x.first(1, 7));
+    }
+
+    /** Points that are the same, or not: by how many ways they fall into so many that are unlike. */
+    private static void fillingsOfSomeTheSame() {
+        // of 1, 2, 3, 4, 5 unlike ones there are 1, 2, 6, 18, 12
+        PairTables x = mixed();
+        x.points(5);
+        due("1 of one, 15 of two, 25 of three, 10 of four, 1 of five", 1 + 30 + 150 + 180 + 12, x.fillings(0));
+        x.tell(3, 4, 6);
+        due("but those with 3 and 4 the same: 1, 7, 6 and 1", 373 - 1 - 14 - 36 - 18, x.fillings(0));
+        // all MAY BE: 1, 2 and 3 are unlike, 0 is like one of them, or like none
+        x = ofKinds(3);
+        x.points(4);
+        x.tell(1, 3, 4);
+        x.tell(2, 3, 2);
+        due("2 for (1, 2), 3 and 8 for 0", 22, x.fillings(0));
+    }
+
+    /** Eight in order, but three neighbours free. */
+    private static void fillingsOfThreeOfEight() {
+        PairTables x = line();
+        x.points(8);
+        for (int i = 0; i < 6; i++) {
+            tellAll(x, 2);
+            x.tell(i, i + 1, 7);
+            x.tell(i, i + 2, 7);
+            x.tell(i + 1, i + 2, 7);
+            due("three in any order", 13, x.fillings(0));
+            due("three in any order", 7, x.sure(i, i + 2));
+            due("three in any order", 7, x.sure(i + 2, i));
+            due("three in any order", 7, x.sure(i + 2, i + 1));
+        }
+    }
+
     /**
      * Each without SAME MAY BE, so that sets without SAME are multiplied: for (0, j) and (1, j) 5 and 1 four times,
      * 2 and 2 two times, 2 for (0, 1): 20000. With SAME for (0, 1) those of 0 and 1 are alike: 1 more.
@@ -595,6 +730,42 @@ public final class NetEdgesTest extends Hand {
         x.tell(0, 2, 7);
         due("(0, 1) before (0, 2)", 1, x.first(0, 1));
         due("(0, 1) before (0, 2)", 1, x.first(0, 2));
+        // 0 and 2 together, 1 after both
+        x.points(3);
+        x.tell(0, 1, 6);
+        x.tell(1, 2, 6);
+        due("(0, 1) is 1", 1, x.first(0, 1));
+        due("(0, 2) is SAME then", 0, x.first(0, 2));
+        due("(1, 2) must be 2", 2, x.first(1, 2));
+        // 1 before 0 and 2, these together; 3 not at 2: after it
+        x.points(4);
+        x.tell(0, 1, 4);
+        x.tell(1, 3, 3);
+        x.tell(2, 3, 6);
+        int[][] due = {{0, 2, 0, 1}, {1, 0, 1, 1}, {0, 2, 0, 1}, {2, 2, 2, 0}};
+        for (int i = 0; i < 4; i++) {
+            for (int j = 0; j < 4; j++) {
+                due("(" + i + ", " + j + ")", due[i][j], x.first(i, j));
+            }
+        }
+        // all MAY BE: 0 is unlike the others, 1 is 2, 3 is not
+        x = ofKinds(3);
+        x.points(4);
+        for (int j = 1; j < 4; j++) {
+            x.tell(0, j, 6);
+        }
+        x.tell(2, 3, 6);
+        due("(1, 2) is SAME at the least", 0, x.first(1, 2));
+        due("(1, 3) is as (2, 3)", 1, x.first(1, 3));
+        // 0 and 1 by 1, 1 and 2 by 2: 2 is unlike 0; 3 is 1 at the least, after (0, 3) has become 1
+        x.points(4);
+        x.tell(0, 1, 2);
+        x.tell(1, 2, 4);
+        x.tell(2, 3, 5);
+        due("(0, 2) can't be SAME", 1, x.first(0, 2));
+        due("(0, 3) can't be SAME", 1, x.first(0, 3));
+        due("(1, 3) is SAME at the least", 0, x.first(1, 3));
+        due("(2, 3) must be 2", 2, x.first(2, 3));
         // four points, KINDS without SAME free: (0, 3) and (1, 2) can't both be 1
         x = ofKinds(3);
         x.points(4);
@@ -615,6 +786,10 @@ public final class NetEdgesTest extends Hand {
         x.tell(1, 0, 6);
         due("KINDS of i below j rise", 1, x.first(0, 1));
         due("of j to i", 2, x.first(1, 0));
+        x.points(2);
+        x.tell(0, 1, 6);
+        due("of two POINTS", 1, x.first(0, 1));
+        due("of two POINTS, the other way round", 2, x.first(1, 0));
         x = ofKinds(8);
         x.points(2);
         x.turn(6, 7);
@@ -667,6 +842,12 @@ public final class NetEdgesTest extends Hand {
         due("in no FILLING", 0, x.sure(2, 0));
         x.points(2);
         due("two POINTS: all", 7, x.sure(0, 1));
+        x.points(3);
+        for (int i = 0; i < 3; i++) {
+            for (int j = 0; j < 3; j++) {
+                due("all free", i == j ? 1 : 7, x.sure(i, j));
+            }
+        }
         // what FULL and TRYING leave may be more than what is SURE, never less
         x = mixed();
         x.points(5);
@@ -777,6 +958,39 @@ public final class NetEdgesTest extends Hand {
         x.tell(0, 1, 7);
         // (0, 2) bit 0, (0, 3) bit 1, (1, 2) bit 2, (2, 3) bit 3
         due("the other one alone", 1 + 2 + 8, x.reason(1));
+    }
+
+    private static void reasonOfPairsTheSame() {
+        // all MAY BE: 2 and 3 are the same, but 0 is not alike to both; (0, 1) bit 0 has nothing to do with it
+        PairTables x = ofKinds(3);
+        x.points(4);
+        x.tell(0, 1, 4);
+        x.tell(0, 2, 2);
+        x.tell(0, 3, 4);
+        x.tell(2, 3, 1);
+        due("(0, 2), (0, 3), (2, 3)", 2 + 4 + 8, x.reason(1));
+        // 1, 2 and 3 are the same, but 1 and 3 are not; (0, 1) and (0, 3) are bits 0 and 1
+        x.points(4);
+        x.tell(0, 1, 2);
+        x.tell(0, 3, 2);
+        x.tell(1, 2, 1);
+        x.tell(1, 3, 4);
+        x.tell(2, 3, 1);
+        due("(1, 2), (1, 3), (2, 3)", 4 + 8 + 16, x.reason(1));
+        // two sorts of points: 2 is of that of 1, and so is 3, but 3 is not of that of 2
+        x = ofKinds(2);
+        x.triangle(1, 1, 1, 0);
+        x.points(4);
+        x.tell(1, 2, 1);
+        x.tell(1, 3, 1);
+        x.tell(2, 3, 2);
+        due("all three", 7, x.reason(1));
+        x.points(5);
+        x.tell(0, 1, 1);
+        x.tell(0, 3, 1);
+        x.tell(1, 3, 2);
+        x.tell(3, 4, 1);
+        due("the first three of four", 7, x.reason(1));
     }
 
     private static void reasonOfTenAndEleven() {
