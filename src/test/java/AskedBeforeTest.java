@@ -26,6 +26,9 @@ public final class AskedBeforeTest extends Hand {
         alike("the net", way, x -> x.kinds(3), x -> x.turn(1, 2), x -> x.triangle(1, 1, 2, 0), x -> x.tell(0, 1, 2),
             x -> x.tell(1, 2, 2), x -> x.tell(2, 0, 6), x -> x.tell(2, 0, 2), x -> x.tell(0, 1, 6),
             x -> x.points(3), x -> x.tell(1, 2, 0));
+        alike("the net", way, x -> x.kinds(3), x -> x.points(4), x -> x.tell(0, 1, 2), x -> x.tell(1, 2, 2),
+            x -> x.tell(0, 2, 4), x -> x.tell(2, 3, 2), x -> x.triangle(1, 1, 2, 0), x -> x.tell(0, 1, 0),
+            x -> x.tell(0, 1, 7), x -> x.tell(2, 3, 0));
         alike("the net", way, x -> x.kinds(3), x -> x.triangle(1, 1, 1, 0), x -> x.points(4), x -> tellAll(x, 6),
             x -> x.tell(1, 3, 5), x -> x.tell(0, 2, 2), x -> x.points(2), x -> x.points(4));
     }

@@ -161,6 +161,9 @@ public final class CarriedEdgesTest extends Hand {
         x = barred(7, 3, more);
         due("20001", -5, x.carried(4, 0));
         due("20001: WHOLE", -5, x.carried(4, 1));
+        int[][] others = {{4, 6, 1}, {5, 2, 2}, {4, 6, 4}, {4, 4, 6}, {3, 3, 6}, {1, 1, 4}, {5, 2, 3}, {5, 4, 3}, {4, 2, 2}};
+        x = barred(7, 0, others);
+        due("some more than 20000", -5, x.carried(4, 0));
     }
 
     private static void spent() {

@@ -28,6 +28,7 @@ public final class NetEdgesTest extends Hand {
         narrowRefused();
         isVoidRefused();
         traceStays();
+        traceOfAllCalls();
         fillingsOfFewPoints();
         fillingsOfWhatIsTold();
         fillingsOfSingleKinds();
@@ -485,10 +486,12 @@ public final class NetEdgesTest extends Hand {
     private static void isVoidRefused() {
         PairTables x = line();
         x.tell(0, 1, 0);
+        String before = seen(x);
         due("too small", -1, x.isVoid(-2));
         due("too large", -1, x.isVoid(3));
         due("far off", -1, x.isVoid(Integer.MIN_VALUE));
         due("far off", -1, x.isVoid(Integer.MAX_VALUE));
+        unchanged("isVoid", before, x);
     }
 
     private static void traceStays() {
@@ -520,6 +523,15 @@ public final class NetEdgesTest extends Hand {
         x.points(8);
         x.narrow(0, 0, 1);
         due("and goes on", 112, x.trace());
+    }
+
+    /** An object is used for at most 512 calls: the last of them. */
+    private static void traceOfAllCalls() {
+        PairTables x = new PairTables();
+        for (int call = 1; call < 512; call++) {
+            x.narrow(2, 0, 1);
+        }
+        due("the 512th call", 511 * 111, x.trace());
     }
 
     private static void fillingsOfFewPoints() {
@@ -601,6 +613,7 @@ public final class NetEdgesTest extends Hand {
         due("2 and 3 are not of one sort", 0, x.fillings(0));
         due("four pairs", 4, x.reason(0));
         x.points(3);
+        due("two sorts of three", 4, x.fillings(0));
         x.tell(0, 2, 2);
         x.tell(1, 2, 2);
         due("0 and 1 are of one sort", 1, x.fillings(0));
@@ -709,10 +722,13 @@ public final class NetEdgesTest extends Hand {
     private static void fillingsRefused() {
         PairTables x = ofKinds(4);
         x.points(8);
-        due("too large, SPENT or not", -1, x.fillings(2));
-        due("too small, SPENT or not", -1, x.fillings(-1));
+        String before = seen(x);
+        due("BAD before SPENT", -1, x.fillings(2));
+        due("BAD before SPENT", -1, x.fillings(-1));
         due("far off", -1, x.fillings(Integer.MIN_VALUE));
         due("far off", -1, x.fillings(Integer.MAX_VALUE));
+        due("SPENT", -5, x.fillings(0));
+        unchanged("fillings", before, x);
     }
 
     private static void firstByItsPairsInOrder() {
@@ -816,6 +832,7 @@ public final class NetEdgesTest extends Hand {
         x.tell(0, 1, 2);
         x.tell(1, 2, 2);
         x.tell(2, 0, 2);
+        String before = seen(x);
         for (int i = 0; i < 3; i++) {
             due("NONE", -9, x.first(i, (i + 1) % 3));
             due("NONE", -9, x.first((i + 1) % 3, i));
@@ -826,6 +843,7 @@ public final class NetEdgesTest extends Hand {
             due("no such POINT", -1, x.first(off, 0));
             due("no such POINT", -1, x.first(0, off));
         }
+        unchanged("first", before, x);
         x.tell(2, 0, 7);
         due("there is one again", 1, x.first(0, 2));
     }
@@ -877,6 +895,7 @@ public final class NetEdgesTest extends Hand {
     private static void sureRefused() {
         PairTables x = line();
         x.points(7);
+        String before = seen(x);
         due("SPENT", -5, x.sure(0, 6));
         due("BAD before SPENT", -1, x.sure(0, 7));
         due("BAD before SPENT", -1, x.sure(7, 0));
@@ -884,6 +903,7 @@ public final class NetEdgesTest extends Hand {
             due("BAD before SPENT", -1, x.sure(off, 0));
             due("BAD before SPENT", -1, x.sure(0, off));
         }
+        unchanged("sure", before, x);
     }
 
     private static void reasonOfNothingTold() {
@@ -1036,10 +1056,11 @@ public final class NetEdgesTest extends Hand {
         due("far off", -1, x.reason(Integer.MAX_VALUE));
         x.points(8);
         tellAll(x, 2);
+        String before = seen(x);
         due("28", -2, x.reason(0));
         due("BAD before STATE", -1, x.reason(2));
         due("BAD before STATE", -1, x.reason(-1));
         due("BAD before STATE", -1, x.reason(Integer.MIN_VALUE));
-        due("nothing changes", 2, x.narrow(-1, 6, 7));
+        unchanged("reason", before, x);
     }
 }

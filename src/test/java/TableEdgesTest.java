@@ -339,10 +339,13 @@ public final class TableEdgesTest extends Hand {
             due("bits beyond, first", -1, x.join(1 << k, 1));
             due("bits beyond, second", -1, x.join(1, 1 << k));
             due("bits beyond and within", -1, x.join(all, all + 1 | 1));
+            String before = seen(x);
             for (int off : OFF) {
                 due("far off, first", -1, x.join(off, all));
                 due("far off, second", -1, x.join(all, off));
+                due("far off, and none", -1, x.join(off, 0));
             }
+            unchanged("join", before, x);
         }
     }
 
