@@ -9,6 +9,7 @@ public final class CarriedEdgesTest extends Hand {
         sameNeverStands();
         eachTriangleIsThere();
         eachKindComes();
+        eachKindComesOnce();
         thereForEachTwo();
         justNotSpent();
         spent();
@@ -120,6 +121,28 @@ public final class CarriedEdgesTest extends Hand {
         x.triangle(1, 1, 1, 0);
         due("rings of three", 2, x.carried(3, 0));
         due("3 never comes", 0, x.carried(3, 1));
+    }
+
+    /** A table of three POINTS that have nothing alike: 3 from 0 to 1, 1 from 1 to 2, 5 from 0 to 2. */
+    private static void eachKindComesOnce() {
+        PairTables x = ofKinds(7);
+        x.turn(1, 2);
+        x.turn(3, 4);
+        x.turn(5, 6);
+        for (int a = 1; a < 7; a++) {
+            for (int b = 1; b < 7; b++) {
+                for (int c = 1; c < 7; c++) {
+                    x.triangle(a, b, c, 0);
+                }
+            }
+        }
+        due("(3, 1, 5) again", 0, x.triangle(3, 1, 5, 1));
+        due("with its same ones, and 19 with SAME", 19 + 6, x.count(1));
+        due("the three POINTS in any order", 6, x.carried(3, 0));
+        due("each KIND comes by one pair, there or back", 6, x.carried(3, 1));
+        due("two: no third one", 6, x.carried(2, 0));
+        due("two: no third one", 0, x.carried(2, 1));
+        due("five: three sorts of pairs can't meet at a POINT", 0, x.carried(5, 0));
     }
 
     /** Two couples: 1 in a couple, 2 between couples. (2, 2, 1), (2, 1, 2), (1, 2, 2) MAY BE. */
